@@ -289,15 +289,15 @@ public final class TreeSync {
     }
 
     private int kindAt(int tree, int p) {
-        return isPath(p) ? kinds[tree * PATHS + p] : NOTHING;
+        return p >= 0 && p < PATHS ? kinds[tree * PATHS + p] : NOTHING;
     }
 
     private int numberAt(int tree, int p) {
-        return isPath(p) ? numbers[tree * PATHS + p] : 0;
+        return p >= 0 && p < PATHS ? numbers[tree * PATHS + p] : 0;
     }
 
     private void setEntry(int tree, int p, int kind, int number) {
-        if (isPath(p)) {
+        if (p >= 0 && p < PATHS) {
             kinds[tree * PATHS + p] = kind;
             numbers[tree * PATHS + p] = number;
         }
@@ -460,7 +460,7 @@ public final class TreeSync {
 
     /**
      * Lists what stepping would do. It needs no trial copy of the trees: what stepping does at a path changes nothing
-     * that it looks at later. (A folder that the last tree gets has nothing in it, as what was there had.)
+     * that it looks at later. (Where the last tree gets a folder nothing stands in it, as nothing did before.)
      */
     private void plan() {
         actionCount = 0;

@@ -7,7 +7,10 @@ import java.lang.reflect.Modifier;
 import java.nio.file.Files;
 import java.nio.file.Path;
 import java.util.Arrays;
+import java.util.Map;
 import java.util.Set;
+import java.util.StringJoiner;
+import java.util.TreeMap;
 import java.util.TreeSet;
 import java.util.regex.Matcher;
 import java.util.regex.Pattern;
@@ -41,9 +44,11 @@ public final class FaceTest {
     }
 
     private static String told(Method method) {
-        String parameters = Arrays.toString(Arrays.stream(method.getParameterTypes()).map(Class::getTypeName).toArray());
-        return method.getReturnType() + " " + method.getName() + "("
-            + parameters.substring(1, parameters.length() - 1) + ")";
+        StringJoiner parameters = new StringJoiner(", ", "(", ")");
+        for (Class<?> type : method.getParameterTypes()) {
+            parameters.add(type.getTypeName());
+        }
+        return method.getReturnType() + " " + method.getName() + parameters;
     }
 
     private static void publicFace() throws IllegalAccessException {
@@ -111,6 +116,34 @@ public final class FaceTest {
             must(made.group(1).startsWith("    private final "), "arrays are made with the fields: " + made.group());
         }
         nestedCalls(code);
+        callDepth(code);
+    }
+
+    /** Rules 8 and 10: no recursion, calls at most six deep, counted from the public method on. */
+    private static void callDepth(String code) {
+        Map<String, String> bodies = new TreeMap<>();
+        String head = "^    p[a-z ]+ (\\w+)\\([^)]*\\) \\{\n";
+        String body = "((?:        .*\n|\\s*\n)*)    \\}";
+        Matcher method = Pattern.compile(head + body, Pattern.MULTILINE).matcher(code);
+        while (method.find()) {
+            bodies.put(method.group(1), method.group(2));
+            must(method.group(2).lines().count() <= 60, method.group(1) + " is short");
+        }
+        int due = TreeSync.class.getDeclaredMethods().length + 1;
+        must(bodies.size() == due, "every method and the constructor was found: " + bodies.keySet());
+        Set<String> reached = bodies.keySet();
+        for (int depth = 1; depth <= 6; depth++) {
+            Set<String> called = new TreeSet<>();
+            for (String name : reached) {
+                Matcher call = Pattern.compile("\\b(\\w+)\\(").matcher(bodies.get(name));
+                while (call.find()) {
+                    must(bodies.containsKey(call.group(1)), call.group(1) + " is a method of the class");
+                    called.add(call.group(1));
+                }
+            }
+            reached = called;
+        }
+        must(reached.isEmpty(), "calls go at most six deep, and none comes back: " + reached);
     }
 
     /** Rule 10: no call inside the arguments of another call. A declaration has no call in its brackets either. */

@@ -359,7 +359,8 @@ public final class ModelTest {
         if (got != want) {
             wrong++;
             if (wrong <= 20) {
-                System.out.println("run " + run + ":" + told + " then " + call + " answered " + got + ", due is " + want);
+                System.out.println("run " + run + ":" + told + " then " + call + " answered " + got
+                    + ", due is " + want);
             }
         }
     }

@@ -12,22 +12,19 @@ public final class PromiseTest {
     private static int wrong = 0;
 
     private static void due(long got, long want) {
-        row++;
-        if (got != want) {
-            wrong++;
-            int line = new Throwable().getStackTrace()[1].getLineNumber();
-            System.out.println("promise " + promise + ", row " + row + " (line " + line + "): answered " + got
-                + ", due is " + want);
-        }
+        check(got == want, got + ", due is " + want);
     }
 
     private static void due(boolean got, boolean want) {
+        check(got == want, got + ", due is " + want);
+    }
+
+    private static void check(boolean right, String answer) {
         row++;
-        if (got != want) {
+        if (!right) {
             wrong++;
-            int line = new Throwable().getStackTrace()[1].getLineNumber();
-            System.out.println("promise " + promise + ", row " + row + " (line " + line + "): answered " + got
-                + ", due is " + want);
+            int line = new Throwable().getStackTrace()[2].getLineNumber();
+            System.out.println("promise " + promise + ", row " + row + " (line " + line + "): answered " + answer);
         }
     }
 
@@ -252,6 +249,28 @@ public final class PromiseTest {
         due(y.size(0), moving ? 4 : 8);
         due(place(y, moving, 0, 17, 2), 0);
         due(y.number(0, 2), 6);
+    }
+
+    /** The first path of each level is refused as the others are, and what stands next to p does not count. */
+    private static void placeFirstOfLevel(boolean moving) {
+        TreeSync x = begin(moving ? 5 : 6);
+        due(x.folder(0, 0), 0);
+        due(x.folder(0, 2), 0);
+        due(x.folder(0, 3), 0);
+        due(x.folder(0, 16), 0);
+        due(x.write(0, 68, 1), 0);
+        due(place(x, moving, 0, 3, 4), BAD_ARG);
+        due(x.folder(0, 4), 0);
+        due(place(x, moving, 0, 16, 20), BAD_ARG);
+        due(place(x, moving, 0, 3, 20), BAD_ARG);
+        due(x.size(0), 6);
+        due(place(x, moving, 0, 2, 20), 0);
+        due(place(x, moving, 0, 16, 7), 0);
+        due(x.number(0, 32), 1);
+        due(place(x, moving, 0, 0, 1), 0);
+        due(x.kind(0, 24), 0);
+        due(x.kind(0, 36), 2);
+        due(x.number(0, 48), 1);
     }
 
     private static void placeContent(boolean moving) {
@@ -870,6 +889,7 @@ public final class PromiseTest {
         for (int i = 0; i < 2; i++) {
             placeRefusals(i == 0);
             placeDepths(i == 0);
+            placeFirstOfLevel(i == 0);
             placeContent(i == 0);
         }
         kind();
