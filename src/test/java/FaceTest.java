@@ -30,6 +30,8 @@ public final class FaceTest {
         "System", "Arrays", "import", "package", "null", "throw", "throws", "try", "catch", "finally", "synchronized",
         "assert", "instanceof", "enum", "record", "interface", "extends", "implements", "super", "protected", "var"};
 
+    private static final Set<String> NO_CALLS = Set.of("if", "for", "while", "switch", "return");
+
     private static int wrong = 0;
 
     private static void must(boolean holds, String what) {
@@ -111,36 +113,61 @@ public final class FaceTest {
         }
         must(!code.contains("->") && !code.contains("::") && !code.contains("\""), "no lambda, reference or text");
         must(!code.contains("[][]"), "arrays have one dimension");
-        Matcher made = Pattern.compile("(.*)\\bnew\\b").matcher(code);
-        while (made.find()) {
-            must(made.group(1).startsWith("    private final "), "arrays are made with the fields: " + made.group());
+        Map<String, String> bodies = bodies(code);
+        for (String name : bodies.keySet()) {
+            boolean makes = Pattern.compile("\\bnew\\b").matcher(bodies.get(name)).find();
+            must(name.equals("TreeSync") || !makes, name + " makes nothing new");
         }
+        callDepth(bodies);
         nestedCalls(code);
-        callDepth(code);
+    }
+
+    /** Where the bracket that opens just before this place is closed again. */
+    private static int closing(String code, int from, char open, char close) {
+        int depth = 1;
+        int end = from;
+        while (depth > 0) {
+            char c = code.charAt(end);
+            depth += c == open ? 1 : c == close ? -1 : 0;
+            end++;
+        }
+        return end - 1;
+    }
+
+    private static Map<String, String> bodies(String code) {
+        Map<String, String> found = new TreeMap<>();
+        String words = "\\b(?:public|private)\\s[\\w\\s\\[\\]]*?\\b(\\w+)\\s*\\([^()]*\\)\\s*\\{";
+        Matcher head = Pattern.compile(words).matcher(code);
+        while (head.find()) {
+            String body = code.substring(head.end(), closing(code, head.end(), '{', '}'));
+            must(found.put(head.group(1), body) == null, head.group(1) + " is there once");
+            must(body.lines().count() <= 60, head.group(1) + " is short");
+        }
+        int due = TreeSync.class.getDeclaredMethods().length + 1;
+        must(found.size() == due, "every method and the constructor was found: " + found.keySet());
+        return found;
+    }
+
+    private static Set<String> callsIn(String text) {
+        Set<String> found = new TreeSet<>();
+        Matcher call = Pattern.compile("\\b(\\w+)\\s*\\(").matcher(text);
+        while (call.find()) {
+            if (!NO_CALLS.contains(call.group(1))) {
+                found.add(call.group(1));
+            }
+        }
+        return found;
     }
 
     /** Rules 8 and 10: no recursion, calls at most six deep, counted from the public method on. */
-    private static void callDepth(String code) {
-        Map<String, String> bodies = new TreeMap<>();
-        String head = "^    p[a-z ]+ (\\w+)\\([^)]*\\) \\{\n";
-        String body = "((?:        .*\n|\\s*\n)*)    \\}";
-        Matcher method = Pattern.compile(head + body, Pattern.MULTILINE).matcher(code);
-        while (method.find()) {
-            bodies.put(method.group(1), method.group(2));
-            must(method.group(2).lines().count() <= 60, method.group(1) + " is short");
-        }
-        int due = TreeSync.class.getDeclaredMethods().length + 1;
-        must(bodies.size() == due, "every method and the constructor was found: " + bodies.keySet());
+    private static void callDepth(Map<String, String> bodies) {
         Set<String> reached = bodies.keySet();
         for (int depth = 1; depth <= 6; depth++) {
             Set<String> called = new TreeSet<>();
             for (String name : reached) {
-                Matcher call = Pattern.compile("\\b(\\w+)\\(").matcher(bodies.get(name));
-                while (call.find()) {
-                    must(bodies.containsKey(call.group(1)), call.group(1) + " is a method of the class");
-                    called.add(call.group(1));
-                }
+                called.addAll(callsIn(bodies.getOrDefault(name, "")));
             }
+            must(bodies.keySet().containsAll(called), "only the methods of the class are called: " + called);
             reached = called;
         }
         must(reached.isEmpty(), "calls go at most six deep, and none comes back: " + reached);
@@ -148,18 +175,12 @@ public final class FaceTest {
 
     /** Rule 10: no call inside the arguments of another call. A declaration has no call in its brackets either. */
     private static void nestedCalls(String code) {
-        Matcher call = Pattern.compile("\\b([a-z]\\w*)\\(").matcher(code);
+        Matcher call = Pattern.compile("\\b(\\w+)\\s*\\(").matcher(code);
         while (call.find()) {
-            int depth = 1;
-            int end = call.end();
-            while (depth > 0) {
-                char c = code.charAt(end);
-                depth += c == '(' ? 1 : c == ')' ? -1 : 0;
-                end++;
+            if (!NO_CALLS.contains(call.group(1))) {
+                String arguments = code.substring(call.end(), closing(code, call.end(), '(', ')'));
+                must(callsIn(arguments).isEmpty(), "no call in " + call.group(1) + "(" + arguments + ")");
             }
-            String arguments = code.substring(call.end(), end - 1);
-            must(!Pattern.compile("\\b[a-z]\\w*\\(").matcher(arguments).find(),
-                "no call in the arguments of " + call.group(1) + "(" + arguments + ")");
         }
     }
 
