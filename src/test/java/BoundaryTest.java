@@ -688,45 +688,47 @@ public final class BoundaryTest {
         due(x.twins(1, 0), 0);
     }
 
-    private static void twinsAreOtherPaths() {
+    private static void twinsAreOtherPaths(int s) {
         for (int p = 0; p < 84; p++) {
             TreeSync x = new TreeSync();
-            makeAbove(x, 0, p);
-            due(x.write(0, p, 7), 0);
-            due(x.twins(0, p), 0);
-            makeAbove(x, 1, p);
-            due(x.write(1, p, 7), 0);
-            due(x.twins(0, p), 0);
-            due(x.write(0, otherRoot(p), 7), 0);
-            due(x.twins(0, p), 1);
+            makeAbove(x, s, p);
+            due(x.write(s, p, 7), 0);
+            due(x.twins(s, p), 0);
+            makeAbove(x, 1 - s, p);
+            due(x.write(1 - s, p, 7), 0);
+            due(x.twins(s, p), 0);
+            due(x.write(s, otherRoot(p), 7), 0);
+            due(x.twins(s, p), 1);
+            due(x.twins(1 - s, p), 0);
         }
     }
 
-    private static void twinsUpTo63() {
+    private static void twinsUpTo63(int s) {
         TreeSync x = new TreeSync();
-        fillUp(x, 0);
+        fillUp(x, s);
         for (int p = 0; p < 84; p++) {
-            due(x.twins(0, p), p < 4 ? 3 : p < 20 ? 15 : 63);
+            due(x.twins(s, p), p < 4 ? 3 : p < 20 ? 15 : 63);
+            due(x.twins(1 - s, p), 0);
         }
-        due(x.remove(0, 83), 1);
-        due(x.twins(0, 20), 62);
-        due(x.twins(0, 19), 0);
-        due(x.twins(0, 4), 14);
-        due(x.twins(0, 3), 0);
-        due(x.twins(0, 0), 2);
+        due(x.remove(s, 83), 1);
+        due(x.twins(s, 20), 62);
+        due(x.twins(s, 19), 0);
+        due(x.twins(s, 4), 14);
+        due(x.twins(s, 3), 0);
+        due(x.twins(s, 0), 2);
     }
 
-    private static void twinsByNumber() {
+    private static void twinsByNumber(int s) {
         TreeSync x = new TreeSync();
-        due(x.write(0, 0, 0), 0);
-        due(x.folder(0, 1), 0);
-        due(x.write(0, 2, 0), 0);
-        due(x.twins(0, 0), 1);
-        due(x.twins(0, 1), 0);
-        due(x.write(0, 2, 1), 1);
-        due(x.twins(0, 0), 0);
-        due(x.write(0, 11, 0), 0);
-        due(x.twins(0, 0), 1);
+        due(x.write(s, 0, 0), 0);
+        due(x.folder(s, 1), 0);
+        due(x.write(s, 2, 0), 0);
+        due(x.twins(s, 0), 1);
+        due(x.twins(s, 1), 0);
+        due(x.write(s, 2, 1), 1);
+        due(x.twins(s, 0), 0);
+        due(x.write(s, 11, 0), 0);
+        due(x.twins(s, 0), 1);
     }
 
     private static void sameAtAllPaths() {
@@ -925,6 +927,24 @@ public final class BoundaryTest {
         due(y.prefer(1), 0);
         due(y.step(), 4);
         due(y.step(), 0);
+    }
+
+    /** As many actions as there can be: each at a path in which nothing stands. */
+    private static void stepUpTo64Actions() {
+        for (int s = 0; s < 2; s++) {
+            TreeSync x = new TreeSync();
+            for (int p = 0; p < 84; p++) {
+                due(x.folder(s, p), 0);
+                due(p < 20 ? x.folder(1 - s, p) : 0, 0);
+            }
+            due(x.actions(), 64);
+            due(x.action(63, 0), 83);
+            due(x.action(63, 1), 1 - s);
+            due(x.action(64, 0), NONE);
+            due(x.step(), 64);
+            due(x.same(), true);
+            due(x.changed(0), 0);
+        }
     }
 
     private static TreeSync actionsAt(int count) {
@@ -1210,9 +1230,12 @@ public final class BoundaryTest {
         holds("Promise 11: paths at which side s and the last tree differ",
             BoundaryTest::changedCountsPathsNotContents);
         holds("Promise 12: 0 if that is nothing", BoundaryTest::twinsOfNothing);
-        holds("Promise 12: other paths on side s", BoundaryTest::twinsAreOtherPaths);
-        holds("Promise 12: The number of other paths", BoundaryTest::twinsUpTo63);
-        holds("Promise 12: with the same content", BoundaryTest::twinsByNumber);
+        for (int side = 0; side < 2; side++) {
+            int s = side;
+            holds("Promise 12: other paths on side " + s, () -> twinsAreOtherPaths(s));
+            holds("Promise 12: The number of other paths on side " + s, () -> twinsUpTo63(s));
+            holds("Promise 12: with the same content on side " + s, () -> twinsByNumber(s));
+        }
         holds("Promise 13: at all paths", BoundaryTest::sameAtAllPaths);
         holds("Promise 14: The number of actions that stepping would do", BoundaryTest::actionsWouldBeDone);
         holds("Promise 15: what not 0 or 1 answers BAD_ARG, before NONE", BoundaryTest::actionByWhat);
@@ -1227,6 +1250,7 @@ public final class BoundaryTest {
         holds("Promise 18: Side s is preferred (s 0 or 1)", BoundaryTest::preferASide);
         holds("Promise 18: BAD_ARG for others", BoundaryTest::preferOthers);
         holds("Promise 19: Answers the number of actions", BoundaryTest::stepAnswersTheActions);
+        holds("Promise 19: the number of actions, all 64", BoundaryTest::stepUpTo64Actions);
         holds("Promise 20: BAD_ARG if n is below 0", BoundaryTest::stepSomeBelow0);
         holds("Promise 20: stops when n actions are done", BoundaryTest::stepSomeUpToN);
         holds("Promise 20: and a further one would be", BoundaryTest::stepSomeGoesOnToAFurtherAction);

@@ -356,7 +356,12 @@ public final class TermsTest {
             int root = p < 52 ? 3 : 0;
             // Another name than that of p, or the folders that they stand in were twins as well.
             int inner = inside(root, (p + 1) % 4);
-            TreeSync x = withAbove(p);
+            TreeSync x = new TreeSync();
+            makeAbove(x, 0, p);
+            // What stands on the other side does not belong to it either.
+            for (int q = 0; q < 4; q++) {
+                due(x.write(1, q, 7), 0);
+            }
             due(x.folder(0, p), 0);
             due(x.twins(0, p), 0);
             due(x.folder(0, root), 0);
