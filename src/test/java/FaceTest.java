@@ -120,6 +120,7 @@ public final class FaceTest {
         }
         callDepth(bodies);
         nestedCalls(code);
+        loops(code);
     }
 
     /** Where the bracket that opens just before this place is closed again. */
@@ -180,6 +181,32 @@ public final class FaceTest {
             if (!NO_CALLS.contains(call.group(1))) {
                 String arguments = code.substring(call.end(), closing(code, call.end(), '(', ')'));
                 must(callsIn(arguments).isEmpty(), "no call in " + call.group(1) + "(" + arguments + ")");
+            }
+        }
+    }
+
+    private static boolean changes(String text, String name) {
+        String assigned = "\\b" + name + "\\s*([-+*/%&|^]|<<|>>>?)?=(?!=)";
+        String counted = "\\b" + name + "\\s*(\\+\\+|--)|(\\+\\+|--)\\s*" + name + "\\b";
+        return Pattern.compile(assigned + "|" + counted).matcher(text).find();
+    }
+
+    /** Rule 8: every loop counts up to a bound, and its body changes neither the counter nor the bound. */
+    private static void loops(String code) {
+        must(!Pattern.compile("\\b(while|do)\\b").matcher(code).find(), "every loop is a for");
+        Pattern counting = Pattern.compile("int (\\w+) = \\d+; \\1 < (\\w+)( && [^|]*)?; \\1\\+\\+");
+        Matcher loop = Pattern.compile("\\bfor\\s*\\(").matcher(code);
+        while (loop.find()) {
+            int headEnd = closing(code, loop.end(), '(', ')');
+            String head = code.substring(loop.end(), headEnd);
+            Matcher parts = counting.matcher(head);
+            must(parts.matches(), "a counter against a bound: for (" + head + ")");
+            int bodyStart = code.indexOf('{', headEnd) + 1;
+            must(code.substring(headEnd + 1, bodyStart).trim().equals("{"), "a body in brackets: for (" + head + ")");
+            String body = code.substring(bodyStart, closing(code, bodyStart, '{', '}'));
+            if (parts.matches()) {
+                must(!changes(body, parts.group(1)), "the body leaves the counter alone: for (" + head + ")");
+                must(!changes(body, parts.group(2)), "the body leaves the bound alone: for (" + head + ")");
             }
         }
     }
